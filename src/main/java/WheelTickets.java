@@ -340,6 +340,7 @@ public final class WheelTickets {
         if (ofTicket && !now.isTicketIn(t)) {
             return 1 << now.drew[t];
         }
+        rest.spreadAll(now);
         rest.tally(now);
         return ofTicket ? rest.prizesOf(t) : rest.fitting;
     }
@@ -348,6 +349,7 @@ public final class WheelTickets {
         if (!within(what, 0, 1)) {
             return BAD;
         }
+        rest.spreadAll(now);
         rest.tally(now);
         int best = NONE;
         int fewest = rest.fitting;
@@ -591,16 +593,16 @@ public final class WheelTickets {
         }
 
         boolean hasPerson(int p) {
-            return within(p, 0, people - 1);
+            return p >= 0 && p < people;
         }
 
         boolean hasTicket(int t) {
-            return within(t, 0, tickets - 1);
+            return t >= 0 && t < tickets;
         }
 
         /** There are as many PRIZES as TICKETS. */
         boolean hasPrize(int k) {
-            return within(k, 0, tickets - 1);
+            return k >= 0 && k < tickets;
         }
 
         boolean isTicketIn(int t) {
@@ -810,6 +812,7 @@ public final class WheelTickets {
         }
 
         void spreadAll(Wheel wheel) {
+            look(wheel);
             for (int p = 0; p < wheel.people; p++) {
                 spread(wheel, p);
             }
@@ -930,10 +933,8 @@ public final class WheelTickets {
             return most;
         }
 
-        /** Counts the ways that fit what is SEEN, in all and by pairs. */
+        /** Behind spreadAll(): counts the ways that fit what is SEEN, in all and by pairs. */
         void tally(Wheel wheel) {
-            look(wheel);
-            spreadAll(wheel);
             fitting = 0;
             Arrays.fill(pairs, 0);
             for (int pairing = 0; pairing < orders; pairing++) {
@@ -1009,6 +1010,7 @@ public final class WheelTickets {
             place = 0;
         }
 
+        /** Takes the next TOKEN, as long as may be; a byte that begins none is a TOKEN_WRONG too. */
         void step() {
             passBlanks();
             start = place;
@@ -1017,12 +1019,9 @@ public final class WheelTickets {
             } else if (bytes[place] == ';') {
                 token = TOKEN_STOP;
                 place++;
-            } else if (isLetter(bytes[place])) {
-                token = TOKEN_NAME;
-                passLetters();
             } else {
-                passFigures();
-                token = within(place - start, 1, 2) ? TOKEN_NUMBER : TOKEN_WRONG;
+                passLetters();
+                token = place > start ? TOKEN_NAME : numberToken();
             }
         }
 
@@ -1033,21 +1032,19 @@ public final class WheelTickets {
         }
 
         private void passLetters() {
-            while (place < length && isLetter(bytes[place])) {
+            while (place < length && bytes[place] >= 'a' && bytes[place] <= 'z') {
                 place++;
             }
         }
 
-        private void passFigures() {
+        private int numberToken() {
             value = 0;
-            while (place < length && within(bytes[place], '0', '9')) {
+            while (place < length && bytes[place] >= '0' && bytes[place] <= '9') {
                 value = value * 10 + bytes[place] - '0';
                 place++;
             }
-        }
-
-        private static boolean isLetter(int c) {
-            return within(c, 'a', 'z');
+            int figures = place - start;
+            return figures == 1 || figures == 2 ? TOKEN_NUMBER : TOKEN_WRONG;
         }
 
         /** Whether the NAME that was read last is this word. */
@@ -1087,10 +1084,8 @@ public final class WheelTickets {
             while (lines < TAPE_MOST && takeLine(tape, wheel)) {
                 lines++;
             }
-            if (found == NO_FAULT) {
-                tellBehindAll(tape.length, wheel);
-            }
-            return found == NO_FAULT ? lines : -10 - foundAt;
+            boolean isTold = found == NO_FAULT && tellBehindAll(tape.length, wheel);
+            return isTold ? lines : -10 - foundAt;
         }
 
         /** Answers false, so that a line ends with it. */

@@ -17,6 +17,7 @@ public final class PromisesTest {
         textThatIsTaken();
         textWithFaultsAsRead();
         textWithFaultsBehindAll();
+        textToTheLastByte();
         textRefusedChangesNothing();
         fault();
         rule();
@@ -178,6 +179,7 @@ public final class PromisesTest {
         x.keep(1);
         x.sheet(0, 1, 7);
         x.draw(0, 0);
+        due("what is tried leaves nothing behind", x.kind(1), 0);
         Check.feed(x, "person 3;whole 0 0 4;");
         due("a text anew", x.text(), 2);
         due("people", x.rule(0), 1);
@@ -190,9 +192,17 @@ public final class PromisesTest {
         due("no image", x.back(0), STATE);
         due("no image", x.back(1), STATE);
         due("sheets stay", x.count(4), 7);
+        due("ways", x.fits(0), 1);
+        Check.feed(x, "person 3;whole 0 0 4;whole 0 0 4;draw 0 0;");
+        due("a text with a draw", x.text(), 4);
+        Check.feed(x, "person 3;whole 0 0 4;whole 0 0 4;");
+        due("a text with none", x.text(), 3);
+        due("nothing is drawn", x.rule(2), 0);
+        due("ways", x.fits(0), 4);
         due("a text of nothing", x.text(), 0);
         due("nobody", x.rule(0), 0);
         due("no tickets", x.rule(1), 0);
+        due("one way", x.fits(0), 1);
     }
 
     private static void textWithFaultsAsRead() {
@@ -212,6 +222,8 @@ public final class PromisesTest {
         faultOf("person 1;1234567890123456789012", 1, 9);
         faultOf("persons 1;", 2, 0);
         faultOf("perso 1;", 2, 0);
+        faultOf("qerson 1;", 2, 0);
+        faultOf("dram 0 0;", 2, 0);
         faultOf(" x 100;", 2, 1);
         faultOf(";", 2, 0);
         faultOf("person 1;;", 2, 9);
@@ -255,6 +267,28 @@ public final class PromisesTest {
         faultOf("person 1;whole 0 0 0;draw 0 0;draw 0 0; ", 8, 40);
         faultOf("person 1;whole 0 0 0;whole 0 0 0;draw 0 0;draw 0 1;", 8, 51);
         faultOf("person 1;whole 0 0 0;whole 0 0 0;draw 0 0;draw 1 0;", 8, 51);
+    }
+
+    private static void textToTheLastByte() {
+        String blanks = " ".repeat(160);
+        taken(blanks, 0);
+        taken(blanks.substring(9) + "person 1;", 1);
+        faultOf(blanks.substring(6) + "person", 2, 160);
+        faultOf(blanks.substring(8) + "person 9", 2, 160);
+        faultOf("a".repeat(160), 2, 0);
+        faultOf("9".repeat(160), 1, 0);
+        // What end() took away is not read, though it stood there.
+        WheelTickets x = new WheelTickets();
+        Check.feed(x, "persons");
+        x.end(6);
+        due("a name that was cut", x.text(), -16);
+        Check.feed(x, "person 123");
+        x.end(9);
+        due("a number that was cut", x.text(), -19);
+        due("it is not too long", x.fault(), 2);
+        Check.feed(x, "person    ");
+        x.end(8);
+        due("blanks that were cut", x.text(), -18);
     }
 
     private static void textRefusedChangesNothing() {
@@ -585,6 +619,13 @@ public final class PromisesTest {
         due("first to the most of the other", y.ends(1, 2), 10);
         y.draw(0, 1);
         due("of those in the wheel", y.ends(0, 2), 4);
+        WheelTickets two = Check.told("person 2;person 0;hired 1 0 3;whole 1 1 0;");
+        due("the least of two", two.ends(0, 0), 10000 + 2 - 6);
+        due("the most of two", two.ends(0, 1), 10000 + 2 - 3);
+        due("the least of two, the other", two.ends(1, 0), 10003);
+        due("the most of two, the other", two.ends(1, 1), 10006);
+        two.draw(0, 0);
+        due("the last one is first", two.ends(0, 2), 2);
         WheelTickets z = Check.told("person 1;whole 0 0 0;whole 0 0 0;whole 0 0 0;");
         due("all alike", z.ends(0, 2), 7);
         z.draw(0, 0);
@@ -659,6 +700,7 @@ public final class PromisesTest {
         x.sign(3, 1, 1);
         due("what is his already", x.buy(1), NONE);
         due("no more than as it is", Check.told("person 0;person 0;whole 1 1 0;").buy(0), NONE);
+        due("the first one", Check.told("person 0;person 0;whole 1 1 0;whole 1 1 0;prize 1;").buy(0), 0);
         due("he has it", Check.told("person 0;whole 0 0 0;prize 9;").buy(0), NONE);
         due("no ticket", Check.told("person 0;").buy(0), NONE);
         due("buy(2)", x.buy(2), BAD);
@@ -937,6 +979,9 @@ public final class PromisesTest {
         due("purse", y.person(0, 0), 10050);
         due("refused ahead of the machine", y.read(0, 1, 0, 20), -22);
         due("of what there is not", y.read(0, 1, 6, 1), -20);
+        WheelTickets z = withSheet(1, 2, 0, 1, 2, 0);
+        due("to the last cell", z.read(0, 1, 0, 3), 3);
+        due("no fault", z.torn(), 0);
         due("a prize that there is not", withSheet(1, -1).read(0, 1, 0, 1), -20);
     }
 
@@ -1017,9 +1062,16 @@ public final class PromisesTest {
     /** Any arguments in any state: nothing may be thrown, whatever is answered. */
     private static void neverThrows() {
         int[] wild = {LOW, LOW + 1, -1001, -1, 0, 1, 2, 3, 4, 5, 10, 13, 14, 20, 40, 41, 999, HIGH - 1, HIGH};
-        String[] texts = {"", "person 1;", THREE, FOUR_PEOPLE + FOUR_TICKETS + "draw 0 0;"};
+        String[] texts = {"", "person 1;", THREE, FOUR_PEOPLE + FOUR_TICKETS + "draw 0 0;", FOUR_PEOPLE + FOUR_TICKETS};
         for (String text : texts) {
             WheelTickets x = Check.told(text);
+            for (int a = 0; a < 4; a++) {
+                oneNumber(x, a);
+                x.ends(a, 2);
+                x.cap(3, a, 999);
+                x.fits(10 + a);
+                CHECK.that("no more ways than there are", x.luck(a, 0, 1) <= 576);
+            }
             for (int a : wild) {
                 oneNumber(x, a);
                 for (int b : wild) {
