@@ -433,9 +433,9 @@ public final class WheelTickets {
         Sheet from = sheets[k];
         trial.copy(now);
         int drawn = 0;
-        int found = from.faultAs(lane);
+        int found = NO_FAULT;
         for (int i = 0; i < n && found == NO_FAULT; i++) {
-            found = from.faultAtPair(f + 2 * i);
+            found = from.faultAtPair(lane, f + 2 * i);
             if (found == NO_FAULT) {
                 int t = from.cells[f + 2 * i];
                 int prize = from.cells[f + 2 * i + 1];
@@ -1240,11 +1240,6 @@ public final class WheelTickets {
             cells[i] = lane == BYTES ? (byte) v : lane == SHORTS ? (short) v : v;
         }
 
-        /** Nothing can be taken as of any lane: the machine finds it when a CELL is asked for. */
-        int faultAs(int asked) {
-            return size == NONE || asked == lane ? NO_FAULT : MACHINE_CAST;
-        }
-
         int faultAt(int i) {
             if (size == NONE) {
                 return MACHINE_NULL;
@@ -1252,7 +1247,11 @@ public final class WheelTickets {
             return within(i, 0, size - 1) ? NO_FAULT : MACHINE_INDEX;
         }
 
-        int faultAtPair(int i) {
+        /** Also whether the lane is another: a SHEET is taken as of a lane only for a pair that is read of it. */
+        int faultAtPair(int asked, int i) {
+            if (size != NONE && asked != lane) {
+                return MACHINE_CAST;
+            }
             int first = faultAt(i);
             return first != NO_FAULT ? first : faultAt(i + 1);
         }

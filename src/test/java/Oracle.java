@@ -754,10 +754,14 @@ final class Oracle {
         }
         World w = now.copy();
         int drawn = 0;
-        int found = sheets[k] != null && lanes[k] != lane ? 3 : sheets[k] == null && n > 0 ? 1 : 0;
+        int found = 0;
         while (found == 0 && drawn < n) {
             long at = (long) f + 2 * drawn;
-            if (at < 0 || at + 1 >= sheets[k].length) {
+            if (sheets[k] == null) {
+                found = 1;
+            } else if (lanes[k] != lane) {
+                found = 3;
+            } else if (at < 0 || at + 1 >= sheets[k].length) {
                 found = 2;
             } else if (w.draw((int) sheets[k][(int) at], (int) sheets[k][(int) at + 1]) < 0) {
                 return -20 - drawn;

@@ -49,6 +49,7 @@ public final class PromisesTest {
         lay();
         read();
         readAndTheMachine();
+        readNoTimes();
         torn();
         count();
         neverThrows();
@@ -1007,16 +1008,35 @@ public final class PromisesTest {
             due("nothing", y.read(1, lane, -1, 1), 0);
             due("null", y.torn(), 1);
         }
-        due("none of nothing", y.read(1, 0, 0, 0), 0);
-        due("no cell is asked for", y.torn(), 0);
-        due("none of another lane", y.read(0, 0, 0, 0), 0);
-        due("it is taken as of it", y.torn(), 3);
-        due("none from anywhere", y.read(0, 1, -5, 0), 0);
-        due("no cell is asked for", y.torn(), 0);
         due("nothing was drawn", y.rule(2), 0);
         y.sheet(3, 1, 0);
         due("no cells", y.read(3, 1, 0, 1), 0);
         due("index", y.torn(), 2);
+        due("another lane without cells", y.read(3, 0, 0, 1), 0);
+        due("cast", y.torn(), 3);
+    }
+
+    /** What is read no times gives the machine nothing to refuse: of whatever sheet, as of whatever lane, from wherever. */
+    private static void readNoTimes() {
+        WheelTickets x = withSheet(1, 2);
+        x.sheet(1, 0, 0);
+        x.sheet(2, 2, 3);
+        for (int k = 0; k < 4; k++) {
+            for (int lane = 0; lane < 3; lane++) {
+                for (int f : new int[] {0, 1, 2, -1, LOW, HIGH}) {
+                    x.read(0, 2, 0, 1);
+                    due("cast ahead", x.torn(), 3);
+                    String call = "read(" + k + ", " + lane + ", " + f + ", 0)";
+                    due(call, x.read(k, lane, f, 0), 0);
+                    due("torn() behind " + call, x.torn(), 0);
+                }
+            }
+        }
+        due("nothing was drawn", x.rule(2), 0);
+        x.read(0, 2, 0, 1);
+        due("no such sheet", x.read(4, 0, 0, 0), BAD);
+        due("no such lane", x.read(0, 3, 0, 0), BAD);
+        due("these came to no end", x.torn(), 3);
     }
 
     // promise 34
