@@ -2,13 +2,19 @@
 final class Check {
     private int right = 0;
     private int wrong = 0;
+    /** The document's words that are under test, told with each answer that is not as due. */
+    private String sentence = "";
+
+    void sentence(String words) {
+        sentence = "[" + words + "] ";
+    }
 
     void due(String call, long got, long want) {
         if (got == want) {
             right++;
         } else {
             wrong++;
-            System.out.println(call + " answered " + got + ", due is " + want);
+            System.out.println(sentence + call + " answered " + got + ", due is " + want);
         }
     }
 
