@@ -104,6 +104,7 @@ public final class SeenTest {
             }
         }
         new Run(CHECK).due("fits 0", 1);
+        told("person 1;" + "whole 0 0 0;".repeat(4)).due("fits 0", 576).due("text", 0).due("fits 0", 1).due("ask 0", NONE);
     }
 
     private static void fitsAsSeen() {

@@ -81,6 +81,14 @@ public final class SheetTest {
         told(FOUR, "keep 1", "see 0 65", "keep 0", "see 0 64").due("fits 0", 0).due("back 0", 0).due("count 1", 1)
             .due("fits 0", 576).due("back 1", 0).due("count 1", 0).due("back 0", 0).due("count 1", 1).then("forget 0", "see 0 1")
             .due("back 0", 0).due("fits 0", 576);
+        // Of whom, and how much: both come back, and both stay by a read.
+        String two = "person 1;person 2;whole 0 0 0;whole 1 1 0;prize 4;";
+        told(two, "see 0 5", "see 1 2", "keep 0", "forget 0", "see 1 6", "see 0 1").due("fits 10", 2).due("back 0", 0)
+            .due("fits 0", 2).due("fits 10", 1).due("forget 1", 2).due("fits 10", 1).then("see 0 1").due("fits 0", 0);
+        told(two, "see 0 1", "see 1 6", "keep 0", "forget 0", "see 1 2", "see 0 5").due("fits 10", 1).due("back 0", 0)
+            .due("fits 10", 2).due("forget 1", 2).due("fits 10", 2);
+        told(two, "drift 1 0", "sheet 0 0 2", "lay 0 1 1", "see 1 6", "see 0 1").due("read 0 0 0 1", 1).due("count 1", 2)
+            .due("fits 0", 1).due("forget 1", 2).due("fits 0", 1).then("see 0 2").due("fits 0", 0);
         String[] six = {"see 0 1", "see 0 2", "see 0 3", "see 0 4", "see 0 5", "see 0 6"};
         told(FOUR, six).then("keep 0", "forget 0").due("back 0", 0).due("count 1", 6).due("see 0 0", Run.FULL);
     }

@@ -265,6 +265,9 @@ public final class TextTest {
             refused("a" + word + " 0 0 0;", 2, 0);
             refused(word.substring(0, word.length() - 1) + "z 0 0 0;", 2, 0);
             refused("person 1;  " + word + word, 2, 11);
+            for (int i = 0; i < word.length(); i++) {
+                refused(word.substring(0, i) + 'q' + word.substring(i + 1) + " 0 0 0;", 2, 0);
+            }
         }
         refused("x", 2, 0);
         refused("0;", 2, 0);
@@ -524,6 +527,12 @@ public final class TextTest {
             .due("count 1", 0).due("fits 0", 1).due("forget 0", 0).due("see 0 1", 1);
         taken("person 1;", 1).then("see 0 7", "see 0 7", "see 0 7", "see 0 7", "see 0 7", "see 0 7").due("text", 0)
             .due("count 1", 0);
+        // Whatever was asked or done by what was SEEN meanwhile.
+        for (String call : new String[] {"fits 0", "ask 0", "fee 0 5", "kind 0", "buy 0", "cap 0 0 9", "drift 1 0", "keep 0",
+            "read 0 0 0 1", "draw 0 0", "luck 0 5 0", "solid 0"}) {
+            taken("person 1;whole 0 0 0;", 2).then("sheet 0 0 2", "see 0 7", "see 0 8", call).due("count 1", 2)
+                .feed("person 1;whole 0 0 0;").due("text", 2).due("count 1", 0).due("fits 0", 1).isBad("forget 1");
+        }
     }
 
     private static void imagesAreGone() {

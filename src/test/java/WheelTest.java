@@ -38,6 +38,8 @@ public final class WheelTest {
         halfOfItUp();
         insuredByABlank();
         whoIsBothPaysHimself();
+        toldOrChangedIsTheSame();
+        fourPeopleAndFourTickets();
         CHECK.close("WheelTest");
     }
 
@@ -359,5 +361,71 @@ public final class WheelTest {
                     .due("person 1 0", 10006 + much).due("person 0 0", 10005);
             }
         }
+    }
+
+    private static final String[] ASKED = {"worth 0", "day 0 0", "day 1 0", "mean 0 0", "mean 1 0", "luck 0 12 0", "luck 1 9 0",
+        "luck 0 20 1", "solid 0", "solid 1", "ends 0 0", "ends 0 1", "ends 0 2", "ends 1 0", "ends 1 1", "ends 1 2", "fee 0 12",
+        "fee 1 8", "fee 2 9", "kind 0", "kind 1", "kind 2", "buy 0", "buy 1", "cap 0 0 40", "cap 1 1 60", "cap 2 0 90", "fits 0",
+        "fits 10", "fits 11", "fits 12", "ask 0", "ask 1", "drift 1 0", "drift 2 1", "drift 3 0", "count 0", "rule 5"};
+
+    /** What a text tells, and the same reached by calls, answers alike: nothing is worked out from what there was. */
+    private static void toldOrChangedIsTheSame() {
+        CHECK.sentence("what is changed is changed for all that is asked");
+        String want = "person 11;person 3;hired 0 1 4;insured 1 0 6;whole 0 1 2;prize 20;prize 0;prize 6;";
+        String[] ends = {"see 0 30", "see 1 3"};
+        String[][] ways = {
+            {"person 50;person 60;hired 0 1 4;insured 1 0 6;whole 0 1 2;prize 20;prize 0;prize 6;", "fill 0 11", "fill 1 3"},
+            {"person 11;person 3;split 0 1 4;whole 1 0 6;insured 0 1 2;prize 20;prize 0;prize 6;", "sign 0 0 1", "sign 1 0 3", "sign 2 0 0"},
+            {"person 11;person 3;hired 1 0 9;insured 0 1 0;whole 1 0 1;prize 20;prize 0;prize 6;", "sign 0 1 0", "sign 0 2 1",
+                "sign 0 3 4", "sign 1 1 1", "sign 1 2 0", "sign 1 3 6", "sign 2 1 0", "sign 2 2 1", "sign 2 3 2"},
+            {"person 11;person 3;hired 0 1 4;insured 1 0 6;whole 0 1 2;prize 1;prize 2;", "promise 0 20", "promise 1 0", "promise 2 6"},
+            {want, "keep 0", "draw 0 0", "fill 0 9", "sign 1 3 1", "back 0"}
+        };
+        for (String[] way : ways) {
+            for (String asked : ASKED) {
+                Run first = Run.told(CHECK, want, ends);
+                Run other = Run.told(CHECK, way[0]);
+                for (int i = 1; i < way.length; i++) {
+                    other.then(way[i]);
+                }
+                other.then(ends).due(asked, first.call(asked));
+                // Nor does it hang on what was asked ahead of it.
+                other.then("kind 0", "buy 1", "fee 2 3", "drift 4 1").due(asked, first.call(asked));
+            }
+        }
+        // A draw told by a text, made by a call, read of a sheet.
+        for (String asked : ASKED) {
+            Run told = Run.told(CHECK, want + "draw 1 2;", ends);
+            Run called = Run.told(CHECK, want, "draw 1 2").then(ends);
+            Run read = Run.told(CHECK, want, "sheet 3 1 2", "lay 3 0 1", "lay 3 1 2", "read 3 1 0 1").then(ends);
+            long answer = told.call(asked);
+            called.due(asked, answer);
+            read.due(asked, answer);
+        }
+    }
+
+    /** All that there can be at once: each of the four has a ticket that the next one hires. */
+    private static void fourPeopleAndFourTickets() {
+        CHECK.sentence("PEOPLE (4 at most), TICKETS (4 at most): all of them at once");
+        String ring = "person 40;person 40;person 40;person 40;hired 0 1 1;hired 1 2 1;hired 2 3 1;hired 3 0 1;prize 8;";
+        Run run = Run.told(CHECK, ring).due("fits 0", 576).fraction("solid", 1, 1);
+        for (int p = 0; p < 4; p++) {
+            // A fee is had for 1 to 4 days, another one paid for another number of days; the prize by one of four.
+            run.fraction("mean " + p, 42, 1).due("ends " + p + " 0", 10037).due("ends " + p + " 1", 10051)
+                .due("ends " + p + " 2", 1 << (p + 3) % 4).fraction("luck " + p + " 51", 1, 48).fraction("luck " + p + " 52", 0, 1)
+                .fraction("luck " + p + " 37", 1, 1).fraction("luck " + p + " 38", 15, 16);
+        }
+        run.then("fill 0 2", "fill 1 2", "fill 2 2", "fill 3 2");
+        // Below 0 is who hires the ticket that is drawn last, owns the one that is drawn first, and has no prize.
+        run.fraction("solid", 3, 4);
+        for (int p = 0; p < 4; p++) {
+            Run seen = Run.told(CHECK, ring, "see " + p + " 51").due("fits 0", 12);
+            for (int t = 0; t < 4; t++) {
+                seen.due("fits " + (10 + t), t == (p + 3) % 4 ? 1 : 14);
+            }
+            seen.due("ask 0", p == 1 ? 1 : 0).due("ask 1", 4);
+        }
+        Run.told(CHECK, ring, "see 0 51", "see 1 40").due("fits 0", 0);
+        Run.told(CHECK, ring, "see 0 51", "see 1 38", "see 2 41", "see 3 38").due("fits 0", 6);
     }
 }

@@ -169,6 +169,7 @@ public final class WorthTest {
         CHECK.sentence("solid: when there is nobody");
         new Run(CHECK).fraction("solid", 1, 1);
         told("").fraction("solid", 1, 1);
+        told("person 0;person 0;hired 0 1 9;hired 0 1 9;").fraction("solid", 0, 1).due("text", 0).fraction("solid", 1, 1);
     }
 
     // ---- promise 19
