@@ -20,6 +20,8 @@ public final class WheelTickets {
     private static final int READS_MOST = 20;
     /** Keeps a PURSE below 0 apart from BAD and its like. */
     private static final int SHIFT = 10000;
+    /** Less than every sum that is compared: a PURSE stays within a thousand, its mean's sum within ten thousand. */
+    private static final int BELOW_ALL = -1000000;
 
     private static final int WHOLE = 0, HIRED = 1, SPLIT = 2, INSURED = 3;
     private static final int KIND = 0, OWNER = 1, OTHER = 2, FEE = 3, TRAITS = 4;
@@ -262,7 +264,7 @@ public final class WheelTickets {
         int owner = now.trait(t, OWNER);
         trial.copy(now);
         int best = WHOLE;
-        int most = Integer.MIN_VALUE;
+        int most = BELOW_ALL;
         for (int kind = WHOLE; kind <= INSURED; kind++) {
             trial.setTrait(t, KIND, kind);
             int sum = rest.meanSum(trial, owner);
@@ -912,7 +914,7 @@ public final class WheelTickets {
 
         /** For mostByPrizesWith(): what all others bring the PERSON that was spread last, beside a PRIZE. */
         void findBeside(int p, int prize) {
-            Arrays.fill(beside, Integer.MIN_VALUE);
+            Arrays.fill(beside, BELOW_ALL);
             for (int row = 0; row < orders; row++) {
                 for (int i = 0; i < left; i++) {
                     int place = ORDERS[MOST * row + i];
@@ -926,7 +928,7 @@ public final class WheelTickets {
 
         /** The most that a PERSON can have by prizes when the PRIZE of findBeside() is of so much. */
         int mostByPrizesWith(Wheel wheel, int p, int much) {
-            int most = Integer.MIN_VALUE;
+            int most = BELOW_ALL;
             for (int i = 0; i < left; i++) {
                 most = Math.max(most, beside[i] + wheel.shareFor(tickets[i], much, p));
             }

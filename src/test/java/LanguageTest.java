@@ -21,7 +21,7 @@ public final class LanguageTest {
     private static final List<String> RULED_OUT = List.of(
         "\\b(throw|throws|try|catch|finally|synchronized|assert|native|volatile|transient|package|yield|sealed)\\b",
         "->", "::", "\\bstatic\\s*\\{", "Exact\\b", "\\b(System\\.(?!arraycopy\\b)|Object|Random|Thread|Runtime|Float|Double)\\b",
-        "\"\\s*\\+|\\+\\s*\"", "\\b(hashCode|toString)\\b", "\\[\\]\\s*\\[\\]\\s*\\[\\]");
+        "\\b(Integer|Math)\\.(?!(bitCount|abs|min|max)\\()", "\"\\s*\\+|\\+\\s*\"", "\\b(hashCode|toString)\\b", "\\[\\]\\s*\\[\\]\\s*\\[\\]");
 
     public static void main(String[] args) throws IOException {
         String source = Files.readString(Path.of(args[0]));
